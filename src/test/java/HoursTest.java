@@ -163,6 +163,9 @@ public final class HoursTest {
         inLine(x, 6, 3, 0, 1, 2, 4);
         x.shut(3, false);
         inLine(x, 6, 0, 1, 4, 3, 2);
+        x.map(2, 9, 0);
+        x.map(1, 9, 0);
+        inLine(x, 6, 0, 1, 4, 3, 2);
         Due.rule(x, "first turn, far;", 0);
         inLine(x, 6, 0, 2, 1, 4, 3);
         Due.rule(x, "first far, small;", 0);
@@ -249,6 +252,10 @@ public final class HoursTest {
         }
         due.is("seven", x.order(127, -1), OUTSIDE);
         due.is("unknown ahead", x.order(255, -1), UNKNOWN);
+        x.pump(5, 5, 5);
+        due.is("an order is made anew when the pump is another", x.order(63, -1), 6);
+        x.pump(5, 5, 100);
+        due.is("and again", x.order(63, -1), 0);
         x.over(3);
         due.is("outside ahead of not", x.order(127, -1), OUTSIDE);
         due.is("six", x.order(119, -1), 0);
@@ -257,7 +264,10 @@ public final class HoursTest {
             due.is("by numbers", x.order(119, i), want[i]);
         }
         x.pump(0, 0, 45);
-        due.is("from the fourth day on", x.order(119, -1), 3);
+        due.is("with the one that is always, from the fourth day on", x.order(119, -1), 3);
+        x.over(0);
+        due.is("the first one is always", x.order(1, -1), NOT);
+        due.is("with another", x.order(3, -1), NOT);
     }
 
     private static void cuts() {

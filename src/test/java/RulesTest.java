@@ -58,6 +58,8 @@ public final class RulesTest {
         due.is("rate", x.force(2, 3), 7);
         due.is("many blanks", Due.rule(x, "  first   always  ,  far  ;  hours 1 to 1 ; ", 3), 7);
         due.is("rules", x.count(4), 8);
+        due.is("the eighth holds", x.force(6, 3), 3);
+        due.is("the seventh holds with it", x.force(2, 3), 7);
         Due.feed(x, "rate");
         due.is("full ahead of a fault", x.rule(0), FULL);
         due.is("the text stays", x.count(6), 4);
@@ -82,6 +84,15 @@ public final class RulesTest {
         faulty("  rates 5;", 1, 2);
         faulty("Rate 5;", 1, 0);
         faulty("rat", 1, 0);
+        faulty("xate 5;", 1, 0);
+        faulty("ratx 5;", 1, 0);
+        faulty("zrate 5;", 1, 0);
+        faulty("ratez 5;", 1, 0);
+        faulty("firstz far;", 1, 0);
+        faulty("first far`;", 1, 9);
+        faulty("first far{;", 1, 9);
+        faulty("rate 5/;", 1, 6);
+        faulty("rate 5:;", 1, 6);
         faulty("rate", 1, 4);
         faulty("rate  ", 1, 6);
         faulty("rate 5", 1, 6);
