@@ -644,10 +644,18 @@ final class PlainTown {
 
     int beds(int b, int c, int l, int v, int d, int i) {
         if (!in(b, 1, 3) || !in(c, 1, 99) || !in(l, 0, 30) || !in(v, 0, 297) || !in(d, 0, 20)) return OUTSIDE;
-        String plan = plan(new int[] {c, l, v, d}, 0, new int[b], new HashMap<>());
+        return ofPlan(bedPlan(b, c, l, v, d), i);
+    }
+
+    /** The best plan as a text; null: there is none. */
+    String bedPlan(int b, int c, int l, int v, int d) {
+        return plan(new int[] {c, l, v, d}, 0, new int[b], new HashMap<>());
+    }
+
+    static int ofPlan(String plan, int i) {
         if (plan == null) return NONE;
         if (i == NONE) return cleanings(plan);
-        return in(i, 0, d) ? plan.charAt(i) - 'a' - 1 : NONE;
+        return in(i, 0, plan.length() - 1) ? plan.charAt(i) - 'a' - 1 : NONE;
     }
 
     private static int cleanings(String plan) {
