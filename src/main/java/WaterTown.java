@@ -1307,7 +1307,7 @@ public final class WaterTown {
             stand.startAs(truth);
             int dry = 0;
             int dryToday = 0;
-            for (int day = 0; day * HOURS_OF_DAY < hours; day++) {
+            for (int day = 0; day <= LAST_DAY && day * HOURS_OF_DAY < hours; day++) {
                 int length = Math.min(HOURS_OF_DAY, hours - day * HOURS_OF_DAY);
                 // A day that begins as the one before and has its rules goes as that one went.
                 boolean asYesterday = day > 0 && length == HOURS_OF_DAY
